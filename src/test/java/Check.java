@@ -17,6 +17,12 @@ final class Check {
         }
     }
 
+    static void equal(String what, String got, String due) {
+        if (!got.equals(due)) {
+            fail(what + " answered " + got + ", due is " + due);
+        }
+    }
+
     /** Checks that a call throws just this exception, not one of a class below it. */
     static void throwing(String what, Class<? extends RuntimeException> due, Runnable call) {
         try {
