@@ -33,13 +33,17 @@ public final class BoxTests {
             {0, 0, 0, 9, 1, 1}, {0, 0, 0, 1, 9, 1}, {0, 0, 0, 1, 1, 9}, {-1, 0, 0, 2, 1, 1},
             {0, -1, 0, 1, 2, 1}, {0, 0, -1, 1, 1, 2}, {12, 0, 0, 5, 1, 1}, {0, 5, 0, 1, 8, 1},
             {0, 0, 15, 1, 1, 2}, {Integer.MAX_VALUE, 0, 0, 1, 1, 1}, {0, 0, 0, Integer.MIN_VALUE, 1, 1},
-            {1, 0, 0, Integer.MAX_VALUE, 1, 1}, {0, Integer.MAX_VALUE, 0, 1, 8, 1}};
+            {1, 0, 0, Integer.MAX_VALUE, 1, 1}, {0, Integer.MAX_VALUE, 0, 1, 8, 1},
+            {3, 3, 3, 0, 1, 1}, {3, 3, 3, 1, 0, 1}, {3, 3, 3, 1, 1, 0}};
         world.send(5, true);
         for (int[] b : boxes) {
             Check.badIndex("24: no such box", () -> world.copy(b[0], b[1], b[2], b[3], b[4], b[5]));
         }
         Check.badIndex("24: the box ahead of BEYOND", () -> world.copy(4, 0, 4, 9, 1, 1));
         Check.badState("24: BEYOND", () -> world.copy(3, 0, 3, 2, 1, 2));
+        world.send(2, true);
+        Check.badState("24: BEYOND in x", () -> world.copy(7, 0, 3, 2, 1, 1));
+        Check.badState("24: BEYOND in z", () -> world.copy(8, 0, 3, 1, 1, 2));
         Check.equal("24: nothing is changed", world.paste(2, 2, 2, true), 1);
         Check.equal("24: the CLIP is the old one", world.kind(2, 2, 2), 3);
     }
@@ -148,5 +152,8 @@ public final class BoxTests {
         Check.badArgument("26: AIR that is not set, too", () -> world.paste(3, 5, 1, false));
         Check.equal("26: nothing is changed", world.count(1), 1);
         Check.equal("26: beside what is BEYOND", world.paste(2, 0, 0, false), 1);
+        world.send(2, true);
+        Check.badArgument("26: BEYOND in x", () -> world.paste(7, 0, 0, true));
+        Check.equal("26: beside it in z", world.paste(9, 0, 4, false), 1);
     }
 }

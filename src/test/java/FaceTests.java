@@ -36,7 +36,11 @@ public final class FaceTests {
                 Check.equal("19: only at the SIDE 3 of y 11", world.faces(chunk, side),
                         side == 3 ? 16 : 0);
             }
+            Check.equal("19: it is y 11", world.quad(chunk, 3, 0, 1), 11);
         }
+        world.fill(0, 11, 0, 16, 1, 16, 1);
+        Check.equal("19: not below STONE", world.quad(0, 3, 0, 1), 11);
+        Check.equal("19: no more than these", world.faces(0, 3), 16);
     }
 
     /** Two cells beside one another: x 5 of the one KIND, x 6 of the other one. */
@@ -173,6 +177,11 @@ public final class FaceTests {
         world.send(10, true);
         world.send(15, true);
         Check.equal("22: all are AWAY", world.gain(), 0.0);
+        for (int chunk = 0; chunk < 16; chunk++) {
+            CobbleWorld plate = new CobbleWorld();
+            plate.fill(chunk % 4 * 4 + 1, 5, chunk / 4 * 4 + 1, 2, 1, 2, 1);
+            Check.equal("22: each CHUNK counts", plate.gain(), 16.0 / 6.0);
+        }
     }
 
     private static void wrongInputs() {

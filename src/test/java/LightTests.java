@@ -199,6 +199,11 @@ public final class LightTests {
         world.send(5, true);
         Check.equal("23: BEYOND does not count", world.brightness(), 15.0);
         world.send(5, false);
+        world.fill(0, 0, 0, 4, 1, 1, 2);
+        world.fill(0, 11, 4, 4, 1, 1, 5);
+        // 3071 cells are CLEAR: four of LEAF at the top have 13, what is below them 14.
+        Check.equal("23: all that is CLEAR", world.brightness(),
+                (3071 * 15.0 - 4 * 2 - 44 - 1) / 3071);
         Check.equal("23: all STONE", filledWith(1).brightness(), 0.0);
         Check.equal("23: all WATER", filledWith(6).brightness(), 0.0);
         CobbleWorld lamp = filledWith(1);

@@ -11,6 +11,7 @@ public final class StateTests {
         promise3WrongInputs();
         promise4Landscape();
         promise4LeavesAwayChunks();
+        promise4LeavesJustThem();
         promise5Send();
         promise5ComesBackJustSo();
         promise6SandFalls();
@@ -71,7 +72,14 @@ public final class StateTests {
         world.send(0, true);
         Check.badState("2: BEYOND", () -> world.set(3, 0, 3, 1));
         Check.badArgument("2: kind ahead of BEYOND", () -> world.set(3, 0, 3, 7));
+        Check.equal("2: the CHUNK beside in x", world.set(4, 0, 3, 5), 0);
+        Check.equal("2: again", world.set(4, 0, 3, 1), 5);
+        Check.equal("2: the CHUNK beside in z", world.set(3, 0, 4, 5), 0);
+        Check.equal("2: again", world.set(3, 0, 4, 1), 5);
         world.send(0, false);
+        world.send(1, true);
+        Check.badState("2: BEYOND in x", () -> world.set(4, 0, 3, 1));
+        Check.equal("2: not in z", world.set(3, 0, 4, 1), 1);
         Check.equal("2: nothing is changed", world.kind(3, 0, 3), 2);
     }
 
@@ -99,7 +107,8 @@ public final class StateTests {
             {-1, 0, 0, 1, 1, 1}, {-1, 0, 0, 2, 1, 1}, {0, -1, 0, 1, 2, 1}, {0, 0, -1, 1, 1, 2},
             {10, 0, 0, 7, 1, 1}, {0, 6, 0, 1, 7, 1}, {0, 0, 15, 1, 1, 2}, {16, 0, 0, 1, 1, 1},
             {Integer.MAX_VALUE, 0, 0, 2, 1, 1}, {1, 1, 1, Integer.MAX_VALUE, 1, 1},
-            {1, 1, 1, 1, Integer.MAX_VALUE, 1}, {1, 1, 1, 1, 1, Integer.MIN_VALUE}};
+            {1, 1, 1, 1, Integer.MAX_VALUE, 1}, {1, 1, 1, 1, 1, Integer.MIN_VALUE},
+            {5, 5, 5, 0, 1, 1}, {5, 5, 5, 1, 0, 1}, {5, 5, 5, 1, 1, 0}};
         for (int[] b : boxes) {
             Check.badIndex("3: no such box", () -> world.fill(b[0], b[1], b[2], b[3], b[4], b[5], 1));
             Check.badIndex("3: box ahead of kind",
@@ -112,6 +121,14 @@ public final class StateTests {
         Check.badState("3: the middle is BEYOND", () -> world.fill(0, 0, 0, 16, 1, 16, 1));
         Check.badArgument("3: kind ahead of BEYOND", () -> world.fill(3, 0, 3, 2, 1, 2, 7));
         Check.equal("3: nothing is changed", world.count(0), 3072 - 192);
+        world.send(5, false);
+        world.send(2, true);
+        Check.badState("3: BEYOND in x", () -> world.fill(7, 0, 3, 2, 1, 1, 1));
+        Check.badState("3: BEYOND in z", () -> world.fill(8, 0, 3, 1, 1, 2, 1));
+        Check.equal("3: beside it in z", world.fill(8, 0, 4, 4, 1, 4, 0), 0);
+        Check.equal("3: beside it in x", world.fill(4, 0, 0, 4, 1, 4, 0), 0);
+        world.send(2, false);
+        world.send(5, true);
         Check.equal("3: beside what is BEYOND", world.fill(0, 0, 0, 4, 12, 16, 1), 768);
     }
 
@@ -168,6 +185,15 @@ public final class StateTests {
         Check.equal("4: BEYOND does not count", part, whole - there);
         Check.equal("4: TICKS stay", world.ticks(), 1);
         Check.equal("4: the CLIP stays", world.turn(), 1);
+    }
+
+    private static void promise4LeavesJustThem() {
+        CobbleWorld world = new CobbleWorld();
+        world.send(2, true);
+        world.landscape(0);
+        Check.equal("4: the CHUNK across is HERE", world.runs(8) > 1 ? 1 : 0, 1);
+        world.send(2, false);
+        Check.equal("4: this one was not", world.runs(2), 1);
     }
 
     private static void promise5Send() {
@@ -238,6 +264,14 @@ public final class StateTests {
             world.tick(1);
             Check.equal("6: it lies on KIND " + kind, world.kind(kind, 5, 0), 4);
         }
+        CobbleWorld everywhere = new CobbleWorld();
+        everywhere.fill(0, 11, 0, 16, 1, 16, 4);
+        everywhere.tick(11);
+        for (int x = 0; x < 16; x++) {
+            for (int z = 0; z < 16; z++) {
+                Check.equal("6: it falls in each column", sand(everywhere, x, z), 1);
+            }
+        }
     }
 
     private static int sand(CobbleWorld world, int x, int z) {
@@ -280,6 +314,17 @@ public final class StateTests {
         }
         Check.equal("6: behind LEVEL 1 it is AIR", world.kind(0, 0, 8), 0);
         Check.equal("6: round a corner", world.level(10, 0, 11), 3);
+        CobbleWorld corner = new CobbleWorld();
+        corner.set(1, 0, 2, 6);
+        corner.tick(5);
+        Check.equal("6: up to the edge of x", corner.level(0, 0, 2), 7);
+        Check.equal("6: up to the edge of z", corner.level(1, 0, 0), 6);
+        Check.equal("6: to the corner", corner.level(0, 0, 0), 5);
+        corner.fill(0, 0, 0, 16, 1, 16, 0);
+        corner.set(14, 0, 13, 6);
+        corner.tick(5);
+        Check.equal("6: up to the other edge of x", corner.level(15, 0, 13), 7);
+        Check.equal("6: up to the other edge of z", corner.level(14, 0, 15), 6);
         world.set(8, 0, 8, 0);
         Check.equal("6: the SPRING is gone", world.tick(1), 113);
         Check.equal("6: beside LEVEL 7 is LEVEL 6", world.level(8, 0, 8), 6);

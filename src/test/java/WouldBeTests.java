@@ -31,6 +31,8 @@ public final class WouldBeTests {
         world.set(8, 11, 8, 0);
         Check.equal("27: WATER", world.darkWith(8, 11, 8, 6), 257);
         Check.equal("27: the cell above is OPEN", world.darkWith(8, 10, 8, 1), 255);
+        // Nineteen of the cells up to four from the LAMP are more than seven from the hole.
+        Check.equal("27: x and z are not the same", world.darkWith(1, 10, 8, 3), 256 - 113 - 19);
         world.send(0, true);
         Check.equal("27: BEYOND does not count", world.darkWith(8, 11, 8, 1), 240);
     }
@@ -48,6 +50,9 @@ public final class WouldBeTests {
             Check.badArgument("27: KIND ahead of BEYOND", () -> world.darkWith(0, 0, 0, kind));
         }
         Check.badState("27: BEYOND", () -> world.darkWith(0, 0, 0, 0));
+        world.send(1, true);
+        Check.badState("27: BEYOND in x", () -> world.darkWith(5, 0, 0, 0));
+        Check.equal("27: beside it", world.darkWith(0, 0, 5, 0), 0);
     }
 
     private static void promise28CalmIn() {
@@ -124,6 +129,9 @@ public final class WouldBeTests {
         world.send(9, true);
         Check.equal("30: a landscape", world.digest(), summed(world));
         Check.equal("30: again", world.digest(), summed(world));
+        CobbleWorld flowing = new CobbleWorld();
+        flowing.set(8, 0, 8, 6);
+        Check.equal("30: WATER that flows", flowing.digest(), summed(flowing));
     }
 
     private static long summed(CobbleWorld world) {
