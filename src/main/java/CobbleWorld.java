@@ -1,14 +1,15 @@
 /**
  * A world of blocks.
  *
- * <p>A cell is kept as one number, its state: its KIND, and 8 times its LEVEL. Two cells are of the
- * same KIND and LEVEL if their states are equal. All arrays are made with the object and used again,
- * so that no call makes an object.
+ * <p>A cell is kept as one number, its state: its KIND, and 8 times its LEVEL. Two cells are of
+ * the same KIND and LEVEL if their states are equal. All arrays are made with the object and used
+ * again, so that no call makes an object.
  */
 public final class CobbleWorld {
     private static final int WIDTH = 16;
     private static final int HEIGHT = 12;
-    private static final int CELLS = WIDTH * HEIGHT * WIDTH;
+    private static final int LAYER_CELLS = WIDTH * WIDTH;
+    private static final int CELLS = LAYER_CELLS * HEIGHT;
     private static final int CHUNK_WIDTH = 4;
     private static final int CHUNKS_IN_ROW = 4;
     private static final int CHUNKS = 16;
@@ -506,8 +507,21 @@ public final class CobbleWorld {
         return x >= 0 && x < WIDTH && y >= 0 && y < HEIGHT && z >= 0 && z < WIDTH;
     }
 
+    /** Counts y by y, in each z by z, in each x by x: the order in which the document goes on. */
     private static int indexOf(int x, int y, int z) {
         return (y * WIDTH + z) * WIDTH + x;
+    }
+
+    private static int xOf(int index) {
+        return index % WIDTH;
+    }
+
+    private static int yOf(int index) {
+        return index / LAYER_CELLS;
+    }
+
+    private static int zOf(int index) {
+        return index / WIDTH % WIDTH;
     }
 
     private static int chunkOf(int x, int z) {
@@ -587,6 +601,10 @@ public final class CobbleWorld {
             return states[indexOf(x, y, z)];
         }
 
+        int stateOfCell(int index) {
+            return isAway(chunkOf(xOf(index), zOf(index))) ? BEYOND : states[index];
+        }
+
         /** The state that is kept for a cell, also while its CHUNK is AWAY. */
         int keptAt(int x, int y, int z) {
             return isInWorld(x, y, z) ? states[indexOf(x, y, z)] : BEYOND;
@@ -603,15 +621,21 @@ public final class CobbleWorld {
             awayChunks = other.awayChunks;
         }
 
+        /** Lets each cell have the state of another row; returns whether one is new. */
+        boolean change(int[] row) {
+            boolean isNew = false;
+            for (int index = 0; index < CELLS && index < row.length; index++) {
+                isNew = isNew || states[index] != row[index];
+                states[index] = row[index];
+            }
+            return isNew;
+        }
+
         int countOf(int kind) {
             int cells = 0;
-            for (int y = 0; y < HEIGHT; y++) {
-                for (int z = 0; z < WIDTH; z++) {
-                    for (int x = 0; x < WIDTH; x++) {
-                        if (kindOf(stateAt(x, y, z)) == kind) {
-                            cells++;
-                        }
-                    }
+            for (int index = 0; index < CELLS; index++) {
+                if (kindOf(stateOfCell(index)) == kind) {
+                    cells++;
                 }
             }
             return cells;
@@ -644,15 +668,12 @@ public final class CobbleWorld {
 
         private static boolean dropSand(Grid grid) {
             boolean isFallen = false;
-            for (int y = 1; y < HEIGHT; y++) {
-                for (int z = 0; z < WIDTH; z++) {
-                    for (int x = 0; x < WIDTH; x++) {
-                        if (grid.stateAt(x, y, z) == SAND && canSink(grid.stateAt(x, y - 1, z))) {
-                            grid.put(x, y - 1, z, SAND);
-                            grid.put(x, y, z, AIR);
-                            isFallen = true;
-                        }
-                    }
+            for (int index = LAYER_CELLS; index < CELLS; index++) {
+                int below = index - LAYER_CELLS;
+                if (grid.stateOfCell(index) == SAND && canSink(grid.stateOfCell(below))) {
+                    grid.states[below] = SAND;
+                    grid.states[index] = AIR;
+                    isFallen = true;
                 }
             }
             return isFallen;
@@ -663,19 +684,12 @@ public final class CobbleWorld {
         }
 
         private boolean flowWater(Grid grid) {
-            boolean isFlown = false;
-            for (int y = 0; y < HEIGHT; y++) {
-                for (int z = 0; z < WIDTH; z++) {
-                    for (int x = 0; x < WIDTH; x++) {
-                        int before = grid.keptAt(x, y, z);
-                        int after = canFlow(grid.stateAt(x, y, z)) ? flowAt(grid, x, y, z) : before;
-                        next[indexOf(x, y, z)] = after;
-                        isFlown = isFlown || after != before;
-                    }
-                }
+            for (int index = 0; index < CELLS; index++) {
+                next[index] = canFlow(grid.stateOfCell(index))
+                        ? flowAt(grid, xOf(index), yOf(index), zOf(index))
+                        : grid.states[index];
             }
-            System.arraycopy(next, 0, grid.states, 0, CELLS);
-            return isFlown;
+            return grid.change(next);
         }
 
         private static boolean canFlow(int state) {
@@ -693,8 +707,8 @@ public final class CobbleWorld {
                     if (state == SPRING) {
                         springs++;
                     }
-                    if (levelOf(state) > greatest && bearsWater(grid.stateAt(cellX, y - 1, cellZ))) {
-                        greatest = levelOf(state);
+                    if (bearsWater(grid.stateAt(cellX, y - 1, cellZ))) {
+                        greatest = Math.max(greatest, levelOf(state));
                     }
                 }
             }
@@ -730,17 +744,12 @@ public final class CobbleWorld {
         void flood(Grid grid) {
             kindle(grid);
             for (int light = SKY_LIGHT; light > 1; light--) {
-                for (int y = 0; y < HEIGHT; y++) {
-                    for (int z = 0; z < WIDTH; z++) {
-                        for (int x = 0; x < WIDTH; x++) {
-                            int index = indexOf(x, y, z);
-                            if (sky[index] == light) {
-                                spread(grid, sky, x, y, z);
-                            }
-                            if (glow[index] == light) {
-                                spread(grid, glow, x, y, z);
-                            }
-                        }
+                for (int index = 0; index < CELLS; index++) {
+                    if (sky[index] == light) {
+                        spread(grid, sky, index);
+                    }
+                    if (glow[index] == light) {
+                        spread(grid, glow, index);
                     }
                 }
             }
@@ -761,34 +770,29 @@ public final class CobbleWorld {
             }
         }
 
-        private static void spread(Grid grid, int[] row, int x, int y, int z) {
-            int light = row[indexOf(x, y, z)];
+        private static void spread(Grid grid, int[] row, int from) {
             for (int side = 0; side < SIDES; side++) {
-                int cellX = x + STEP_X[side];
-                int cellY = y + STEP_Y[side];
-                int cellZ = z + STEP_Z[side];
-                int state = grid.stateAt(cellX, cellY, cellZ);
+                int x = xOf(from) + STEP_X[side];
+                int y = yOf(from) + STEP_Y[side];
+                int z = zOf(from) + STEP_Z[side];
+                int state = grid.stateAt(x, y, z);
                 if (isClear(state)) {
-                    int left = isThick(state) ? light - 2 : light - 1;
-                    int index = indexOf(cellX, cellY, cellZ);
+                    int left = isThick(state) ? row[from] - 2 : row[from] - 1;
+                    int index = indexOf(x, y, z);
                     row[index] = Math.max(row[index], left);
                 }
             }
         }
 
-        private int lightAt(int x, int y, int z) {
-            return Math.max(skyAt(x, y, z), glowAt(x, y, z));
+        private int lightOf(int index) {
+            return Math.max(sky[index], glow[index]);
         }
 
         int countBelow(Grid grid, int light) {
             int cells = 0;
-            for (int y = 0; y < HEIGHT; y++) {
-                for (int z = 0; z < WIDTH; z++) {
-                    for (int x = 0; x < WIDTH; x++) {
-                        if (isClear(grid.stateAt(x, y, z)) && lightAt(x, y, z) < light) {
-                            cells++;
-                        }
-                    }
+            for (int index = 0; index < CELLS; index++) {
+                if (isClear(grid.stateOfCell(index)) && lightOf(index) < light) {
+                    cells++;
                 }
             }
             return cells;
@@ -797,13 +801,9 @@ public final class CobbleWorld {
         /** The LIGHT of all cells that are CLEAR, added up. */
         int sum(Grid grid) {
             int sum = 0;
-            for (int y = 0; y < HEIGHT; y++) {
-                for (int z = 0; z < WIDTH; z++) {
-                    for (int x = 0; x < WIDTH; x++) {
-                        if (isClear(grid.stateAt(x, y, z))) {
-                            sum += lightAt(x, y, z);
-                        }
-                    }
+            for (int index = 0; index < CELLS; index++) {
+                if (isClear(grid.stateOfCell(index))) {
+                    sum += lightOf(index);
                 }
             }
             return sum;
@@ -860,7 +860,7 @@ public final class CobbleWorld {
 
     /** The FACES of one CHUNK to one SIDE, laid together in QUADS. */
     private static final class Mesh {
-        /** Of one LAYER, v by v and u by u: the KINDS of FACES that are in no QUAD yet; AIR is none. */
+        /** Of one LAYER, v by v: the KINDS of the FACES that are in no QUAD yet; AIR is none. */
         private final int[] open = new int[HEIGHT * CHUNK_WIDTH];
         /** QUAD by QUAD what quad() answers for each `what`. */
         private final int[] numbers = new int[CHUNK_CELLS * QUAD_NUMBERS];
@@ -1027,7 +1027,9 @@ public final class CobbleWorld {
         }
 
         private static boolean isPlace(int i, int j, int k) {
-            return i >= 0 && i < MOST_COPIED && j >= 0 && j < MOST_COPIED && k >= 0 && k < MOST_COPIED;
+            return i >= 0 && i < MOST_COPIED
+                    && j >= 0 && j < MOST_COPIED
+                    && k >= 0 && k < MOST_COPIED;
         }
 
         int stateAt(int i, int j, int k) {
