@@ -129,6 +129,8 @@ public final class StateTests {
         Check.equal("3: beside it in x", world.fill(4, 0, 0, 4, 1, 4, 0), 0);
         world.send(2, false);
         world.send(5, true);
+        Check.equal("3: ahead of it in z", world.fill(4, 0, 0, 4, 1, 4, 0), 0);
+        Check.equal("3: ahead of it in x", world.fill(0, 0, 4, 4, 1, 4, 0), 0);
         Check.equal("3: beside what is BEYOND", world.fill(0, 0, 0, 4, 12, 16, 1), 768);
     }
 

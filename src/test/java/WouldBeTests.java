@@ -53,6 +53,8 @@ public final class WouldBeTests {
         world.send(1, true);
         Check.badState("27: BEYOND in x", () -> world.darkWith(5, 0, 0, 0));
         Check.equal("27: beside it", world.darkWith(0, 0, 5, 0), 0);
+        world.send(0, false);
+        Check.badState("27: BEYOND in x alone", () -> world.darkWith(5, 0, 0, 0));
     }
 
     private static void promise28CalmIn() {
