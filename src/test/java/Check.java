@@ -1,8 +1,14 @@
 /** Counts the answers that are not as due. */
 final class Check {
     private static int wrong = 0;
+    private static String sentence = "";
 
     private Check() {
+    }
+
+    /** Names what the test that begins here holds to the class: it goes ahead of each failure. */
+    static void sentence(String told) {
+        sentence = "[" + told + "] ";
     }
 
     static void equal(String what, long got, long due) {
@@ -49,7 +55,7 @@ final class Check {
 
     static void fail(String text) {
         wrong++;
-        System.out.println(text);
+        System.out.println(sentence + text);
     }
 
     static int wrong() {

@@ -27,12 +27,8 @@ public final class StateTests {
 
     private static void promise1NewWorld() {
         CobbleWorld world = new CobbleWorld();
-        for (int x = 0; x < 16; x++) {
-            for (int y = 0; y < 12; y++) {
-                for (int z = 0; z < 16; z++) {
-                    Check.equal("1: kind of a new cell", world.kind(x, y, z), 0);
-                }
-            }
+        for (int i = 0; i < 256; i++) {
+            Check.equal("1: kind of a new cell", world.kind(i % 16, i % 12, i / 16), 0);
         }
         Check.equal("1: count(0)", world.count(0), 3072);
         Check.equal("1: away()", world.away(), 0);
@@ -136,28 +132,35 @@ public final class StateTests {
 
     private static void promise4Landscape() {
         for (int seed : new int[] {0, 1, 2, 3, 4, 5, 500, 999}) {
-            CobbleWorld world = new CobbleWorld();
-            world.fill(0, 0, 0, 16, 12, 16, 3);
-            int solid = world.landscape(seed);
             int due = 0;
-            for (int x = 0; x < 16; x++) {
-                for (int z = 0; z < 16; z++) {
-                    String told = column((7 * x + 13 * z + x * z + seed) % 6);
-                    for (int y = 0; y < 12; y++) {
-                        int kind = told.charAt(y) - '0';
-                        due += kind == 0 ? 0 : 1;
-                        Check.equal("4: kind", world.kind(x, y, z), kind);
-                        Check.equal("4: level", world.level(x, y, z), kind == 6 ? 8 : 0);
-                    }
-                }
+            for (int y = 0; y < 12; y++) {
+                due += promise4Layer(seed, y);
             }
-            Check.equal("4: landscape(" + seed + ")", solid, due);
+            Check.equal("4: landscape(" + seed + ")", new CobbleWorld().landscape(seed), due);
         }
         CobbleWorld world = new CobbleWorld();
         Check.badArgument("4: seed -1", () -> world.landscape(-1));
         Check.badArgument("4: seed 1000", () -> world.landscape(1000));
         Check.badArgument("4: least seed", () -> world.landscape(Integer.MIN_VALUE));
         Check.equal("4: nothing is changed", world.count(0), 3072);
+    }
+
+    /** How many cells of this y are not to be AIR. */
+    private static int promise4Layer(int seed, int y) {
+        CobbleWorld world = Worlds.fullOf(3);
+        world.landscape(seed);
+        int solid = 0;
+        for (int x = 0; x < 16; x++) {
+            for (int z = 0; z < 16; z++) {
+                int kind = column((7 * x + 13 * z + x * z + seed) % 6).charAt(y) - '0';
+                solid += kind == 0 ? 0 : 1;
+                Check.equal("4: kind", world.kind(x, y, z), kind);
+                if (kind == 6) {
+                    Check.equal("4: level", world.level(x, y, z), 8);
+                }
+            }
+        }
+        return solid;
     }
 
     /** The KINDS of a column of height 2 and so much more, from y 0 on. */
@@ -226,27 +229,17 @@ public final class StateTests {
         world.landscape(40);
         world.set(6, 8, 6, 6);
         world.tick(4);
-        int[] before = stateOf(world);
+        String before = Sight.of(world);
         for (int chunk = 0; chunk < 16; chunk++) {
             world.send(chunk, true);
         }
         Check.equal("5: all is AWAY", world.away(), 65535);
         Check.equal("5: nothing is left", world.count(0), 0);
-        world.tick(3);
+        world.waterIn(3);
         for (int chunk = 0; chunk < 16; chunk++) {
             world.send(chunk, false);
         }
-        Check.equal("5: just so", java.util.Arrays.equals(before, stateOf(world)) ? 1 : 0, 1);
-    }
-
-    private static int[] stateOf(CobbleWorld world) {
-        int[] states = new int[3072];
-        for (int i = 0; i < states.length; i++) {
-            int x = i % 16;
-            int z = i / 16 % 16;
-            states[i] = 10 * world.kind(x, i / 256, z) + world.level(x, i / 256, z);
-        }
-        return states;
+        Check.equal("5: just so", Sight.of(world), before);
     }
 
     private static void promise6SandFalls() {
@@ -271,9 +264,10 @@ public final class StateTests {
         everywhere.tick(11);
         for (int x = 0; x < 16; x++) {
             for (int z = 0; z < 16; z++) {
-                Check.equal("6: it falls in each column", sand(everywhere, x, z), 1);
+                Check.equal("6: it falls in each column", everywhere.kind(x, 0, z), 4);
             }
         }
+        Check.equal("6: nothing is left above", everywhere.count(4), 256);
     }
 
     private static int sand(CobbleWorld world, int x, int z) {

@@ -1,3 +1,5 @@
+import java.util.function.Supplier;
+
 /** Promises 27 to 30: what would be. */
 public final class WouldBeTests {
     private WouldBeTests() {
@@ -121,45 +123,32 @@ public final class WouldBeTests {
     }
 
     private static void promise30Digest() {
+        holds("a new world", CobbleWorld::new);
+        holds("a landscape", WouldBeTests::landscape);
+        holds("WATER that flows", WouldBeTests::flowing);
+        CobbleWorld world = landscape();
+        Check.equal("30: again", world.digest(), world.digest());
+    }
+
+    private static void holds(String world, Supplier<CobbleWorld> made) {
+        Check.equal("30: " + world, made.get().digest(), Checksum.of(made).longValue());
+    }
+
+    private static CobbleWorld landscape() {
         CobbleWorld world = new CobbleWorld();
-        Check.equal("30: a new world", world.digest(), summed(world));
         world.landscape(123);
         world.set(8, 9, 8, 6);
         world.set(3, 1, 12, 3);
         world.tick(5);
         world.send(6, true);
         world.send(9, true);
-        Check.equal("30: a landscape", world.digest(), summed(world));
-        Check.equal("30: again", world.digest(), summed(world));
-        CobbleWorld flowing = new CobbleWorld();
-        flowing.set(8, 0, 8, 6);
-        Check.equal("30: WATER that flows", flowing.digest(), summed(flowing));
+        return world;
     }
 
-    private static long summed(CobbleWorld world) {
-        long d = 58054;
-        d = d * 31 + world.ticks();
-        d = d * 31 + world.away();
-        for (int chunk = 0; chunk < 16; chunk++) {
-            d = d * 31 + world.runs(chunk);
-            for (int run = 0; run < world.runs(chunk); run++) {
-                d = d * 31 + world.run(chunk, run, 0);
-                d = d * 31 + world.run(chunk, run, 1);
-                d = d * 31 + world.run(chunk, run, 2);
-            }
-        }
-        for (int kind = 0; kind < 7; kind++) {
-            d = d * 31 + world.count(kind);
-        }
-        d = ((d * 31 + world.dark(4)) * 31 + world.dark(8)) * 31 + world.dark(12);
-        for (int chunk = 0; chunk < 16; chunk++) {
-            d = (d * 31 + world.faces(chunk, 3)) * 31 + world.quads(chunk, 3);
-            d = (d * 31 + world.faces(chunk, 0)) * 31 + world.quads(chunk, 0);
-        }
-        for (int x = 0; x < 16; x++) {
-            d = d * 31 + world.top(x, x);
-        }
-        return d * 31 + world.waterIn(3);
+    private static CobbleWorld flowing() {
+        CobbleWorld world = new CobbleWorld();
+        world.set(8, 0, 8, 6);
+        return world;
     }
 
     private static void nothingIsChanged() {
